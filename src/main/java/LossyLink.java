@@ -38,8 +38,8 @@ public final class LossyLink {
     private static final int CONTENT_MASK = (1 << CONTENT_BITS) - 1;
     private static final int CELL_MASK = END_MARK | GREATEST_BYTE;
 
-    // The line is empty after every question and at most 30 bytes are given between two of them
-    // that take. So numbers on the line lie at most 30 apart, and 64 of them tell old from new.
+    // Bytes are taken only after the line has been emptied, so at most MOST_WAITING are given
+    // each way while frames are under way: 64 numbers tell an old frame from a new one.
     private static final int NUMBERS = 64;
     private static final int NUMBER_MASK = NUMBERS - 1;
 
@@ -92,7 +92,7 @@ public final class LossyLink {
         if (before >= MOST_WAITING) {
             return FULL;
         }
-        outbox[place(station, given[station])] = end ? b | END_MARK : b;
+        outbox[place(station, given[station])] = end ? (b | END_MARK) : b;
         given[station]++;
         sendWhatFits(station);
         return before + 1;
@@ -321,7 +321,7 @@ public final class LossyLink {
         for (int i = 0; i < window; i++) {
             boolean hasData = toSend[station] != given[station];
             boolean hasReply = owesReply[station] || asksAgain[station];
-            if (underWay[station] >= window || !hasData && !hasReply) {
+            if (underWay[station] >= window || (!hasData && !hasReply)) {
                 break;
             }
             int frame = nextFrame(station, hasData);
@@ -343,14 +343,14 @@ public final class LossyLink {
         }
         owesReply[station] = false;
         asksAgain[station] = false;
-        return content | checkOf(content) << CONTENT_BITS;
+        return content | (checkOf(content) << CONTENT_BITS);
     }
 
     private static int checkOf(int content) {
         int rest = content << CHECK_BITS;
         for (int bit = FRAME_BITS - 1; bit >= CHECK_BITS; bit--) {
-            if ((rest >> bit & 1) != 0) {
-                rest ^= CHECK_POLYNOMIAL << bit - CHECK_BITS;
+            if (((rest >> bit) & 1) != 0) {
+                rest ^= CHECK_POLYNOMIAL << (bit - CHECK_BITS);
             }
         }
         return rest;
@@ -369,21 +369,21 @@ public final class LossyLink {
     }
 
     private void readConfirmation(int station, int content) {
-        int expected = content >> EXPECTED_SHIFT & NUMBER_MASK;
-        int news = expected - confirmed[station] & NUMBER_MASK;
+        int expected = (content >> EXPECTED_SHIFT) & NUMBER_MASK;
+        int news = (expected - confirmed[station]) & NUMBER_MASK;
         // A late frame that confirms less than is known wraps round to more than was given.
         if (news <= given[station] - confirmed[station]) {
             confirmed[station] += news;
         }
-        boolean wouldRepeat = toSend[station] - confirmed[station] < 0;
-        if (wouldRepeat || (content & ASK_MARK) != 0) {
+        boolean isBehind = toSend[station] - confirmed[station] < 0;
+        if (isBehind || (content & ASK_MARK) != 0) {
             toSend[station] = confirmed[station];
         }
     }
 
     private void readData(int station, int content) {
-        int number = content >> NUMBER_SHIFT & NUMBER_MASK;
-        int ahead = number - received[station] & NUMBER_MASK;
+        int number = (content >> NUMBER_SHIFT) & NUMBER_MASK;
+        int ahead = (number - received[station]) & NUMBER_MASK;
         if (ahead == 0) {
             inbox[place(station, received[station])] = content & CELL_MASK;
             received[station]++;

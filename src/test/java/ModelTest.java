@@ -8,7 +8,7 @@ import java.util.List;
 public final class ModelTest {
     private static final int RUNS = 4000;
     private static final int CALLS = 512;
-    private static final int MOST_WRONG_SHOWN = 20;
+    private static final int MOST_WRONG = 20;
 
     private static int wrong = 0;
     private static long sequence;
@@ -33,10 +33,8 @@ public final class ModelTest {
     private void due(String name, int got, int want) {
         if (got != want) {
             wrong++;
-            if (wrong <= MOST_WRONG_SHOWN) {
-                System.out.println("run " + run + ", call " + call + ": " + name + " answered "
-                    + got + ", due is " + want);
-            }
+            System.out.println("run " + run + ", call " + call + ": " + name + " answered "
+                + got + ", due is " + want);
         }
     }
 
@@ -144,7 +142,7 @@ public final class ModelTest {
         int looks = new int[] {1, 4, 15, 40}[below(4)];
         int lineShare = 20 + below(60);
         int faultiness = new int[] {0, 20, 60, 100}[below(4)];
-        for (call = 1; call <= CALLS; call++) {
+        for (call = 1; call <= CALLS && wrong < MOST_WRONG; call++) {
             int station = anyStation();
             if (below(100) < looks) {
                 look(station);
@@ -176,7 +174,7 @@ public final class ModelTest {
     }
 
     public static void main(String[] args) {
-        for (int run = 0; run < RUNS; run++) {
+        for (int run = 0; run < RUNS && wrong < MOST_WRONG; run++) {
             new ModelTest(run).calls();
         }
         System.out.println(wrong == 0 ? "all answers are as due" : wrong + " are not as due");

@@ -300,6 +300,29 @@ public final class PromiseTest {
         }
     }
 
+    /** Each question is the first one, so it must itself let the line finish. */
+    private static void questionsAlone() {
+        about = "promises 9 to 14, asked first";
+        due("waiting", threeGiven().waiting(1), 3);
+        due("messages", threeGiven().messages(1), 1);
+        due("peek", threeGiven().peek(1, 2), 52);
+        due("ends", threeGiven().ends(1, 2), true);
+        due("done", threeGiven().done(1), 0);
+        due("sum", threeGiven().sum(1), 153);
+        due("take", threeGiven().take(1), 50);
+        due("takeMessage", threeGiven().takeMessage(1), 3);
+        due("skip", threeGiven().skip(1), 3);
+    }
+
+    private static LossyLink threeGiven() {
+        LossyLink link = new LossyLink(1);
+        link.give(0, 50, false);
+        link.give(0, 51, false);
+        link.give(0, 52, true);
+        link.carry(0, 1, 0);
+        return link;
+    }
+
     private static void counts() {
         about = "promises 9, 10, 13 and 14";
         LossyLink link = new LossyLink(4);
@@ -382,6 +405,7 @@ public final class PromiseTest {
         carry();
         fire();
         questionsOfNoStation();
+        questionsAlone();
         counts();
         places();
         longUse();
