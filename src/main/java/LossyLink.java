@@ -214,6 +214,7 @@ public final class LossyLink {
         if (isNoStation(station)) {
             return BAD_STATION;
         }
+        letLineFinish();
         return taken[station];
     }
 

@@ -126,7 +126,18 @@ public final class LineTest {
         }
     }
 
-    private static void question() {
+    private static void ask(LossyLink link, int asked) {
+        switch (asked) {
+            case 0 -> link.waiting(0);
+            case 1 -> link.messages(0);
+            case 2 -> link.peek(0, 0);
+            case 3 -> link.ends(0, 0);
+            case 4 -> link.done(0);
+            default -> link.sum(0);
+        }
+    }
+
+    private static void question(int asked) {
         for (int window = 1; window <= 32; window++) {
             LossyLink link = new LossyLink(window);
             for (int i = 0; i < 30; i++) {
@@ -134,7 +145,7 @@ public final class LineTest {
                 link.give(1, i, false);
                 link.carry(i & 1, i % 4, i);
             }
-            link.waiting(0);
+            ask(link, asked);
             for (int from = 0; from < 2; from++) {
                 dueLine("after a question, window " + window, link, from, 0, 30);
                 due("confirmed, window " + window, inside(link, "confirmed", from), 30);
@@ -150,7 +161,9 @@ public final class LineTest {
             fire(from);
         }
         window();
-        question();
+        for (int asked = 0; asked < 6; asked++) {
+            question(asked);
+        }
         System.out.println(wrong == 0 ? "the line is as due" : wrong + " are not as due");
         if (wrong != 0) {
             System.exit(1);
