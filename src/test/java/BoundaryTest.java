@@ -1,3 +1,5 @@
+import java.util.Arrays;
+
 /**
  * A test of its own for each sentence of the document that names a boundary case. The methods
  * called by main list them: the heading, the sentence, the test. Whatever is wrong is printed under
@@ -197,7 +199,7 @@ public final class BoundaryTest {
 
     private static int[] unmarked(int count, int b) {
         int[] cells = new int[count];
-        java.util.Arrays.fill(cells, b);
+        Arrays.fill(cells, b);
         return cells;
     }
 
@@ -687,6 +689,17 @@ public final class BoundaryTest {
 
     // Promise 2.
 
+    private static void giveEveryByteMarkedOrNot() {
+        for (int cell = 0; cell < 2 * MARK; cell++) {
+            for (int from = 0; from < 2; from++) {
+                Link link = new Link(3);
+                link.give(from, cell % MARK, cell >= MARK, 1);
+                link.state(1 - from, 0, cell);
+                link.state(from, 0);
+            }
+        }
+    }
+
     private static void giveToNoStation() {
         for (int station : NO_STATIONS) {
             Link link = new Link(3);
@@ -775,6 +788,8 @@ public final class BoundaryTest {
 
     private static void promise2() {
         about("Promise 2: give");
+        test("A station is given a byte for the other one, marked as the end of a message or not.",
+            BoundaryTest::giveEveryByteMarkedOrNot);
         String refused = "BAD_STATION; byte not in 0 to 255: BAD_BYTE; 30 bytes wait for the other"
             + " station: FULL.";
         test(refused, "no such station", BoundaryTest::giveToNoStation);
@@ -1094,10 +1109,30 @@ public final class BoundaryTest {
         link.state(0, 0, back);
     }
 
+    /** One frame alone meets the fault: damage that is done twice could undo itself. */
+    private static void carryOnce(int window, int fault, int bit) {
+        int[] there = {0, 255 + MARK, 170};
+        int[] back = {85 + MARK, 1};
+        for (int before = 0; before <= 3; before++) {
+            for (int from = 0; from < 2; from++) {
+                Link link = new Link(window);
+                link.giveCells(0, 0, there);
+                link.giveCells(1, 0, back);
+                for (int i = 0; i < before; i++) {
+                    link.carry(from, 0, 0, 0);
+                }
+                link.carry(from, fault, bit, 0);
+                link.state(1, 0, there);
+                link.state(0, 0, back);
+            }
+        }
+    }
+
     private static void everyFault() {
         for (int window : WINDOWS) {
             for (int fault = 0; fault <= 3; fault++) {
                 carryAlways(window, fault, 0);
+                carryOnce(window, fault, 0);
             }
         }
     }
@@ -1106,9 +1141,11 @@ public final class BoundaryTest {
         for (int window : new int[] {1, 6, 32}) {
             for (int bit : BITS) {
                 carryAlways(window, 2, bit);
+                carryOnce(window, 2, bit);
             }
             for (int bit = -130; bit <= 130; bit++) {
                 carryAlways(window, 2, bit);
+                carryOnce(window, 2, bit);
             }
         }
     }
@@ -1118,6 +1155,7 @@ public final class BoundaryTest {
             for (int fault : NO_FAULTS) {
                 for (int bit : BITS) {
                     carryAlways(window, fault, bit);
+                    carryOnce(window, fault, bit);
                 }
             }
         }
@@ -1205,7 +1243,9 @@ public final class BoundaryTest {
                 link.take(1 - station, 1);
                 link.fire(station, 0);
                 link.giveCells(station, 0, cells(30, 1));
+                link.giveCells(1 - station, 0, cells(30, 2));
                 link.fire(station, 0);
+                link.fire(1 - station, 0);
                 link.reset();
                 link.fire(station, 0);
             }
@@ -1310,7 +1350,7 @@ public final class BoundaryTest {
             for (int count : new int[] {0, 1, 29, 30}) {
                 Link link = new Link(3);
                 link.passThrough(0, passed);
-                link.giveCells(0, 0, java.util.Arrays.copyOf(marked, count));
+                link.giveCells(0, 0, Arrays.copyOf(marked, count));
                 for (int i = 0; i < count; i++) {
                     link.ends(1, i, true);
                 }

