@@ -297,7 +297,13 @@ public final class BoundaryTest {
             + " what later calls answer is free.";
         test(calls, "the 512th call, of each kind", BoundaryTest::lastCallOfEachKind);
         test(calls, "the 512th call, refused", BoundaryTest::lastCallFillsUp);
-        test(calls, "later calls end", BoundaryTest::laterCallsEnd);
+    }
+
+    /** The document promises nothing of later calls; the rule does, for any state. */
+    private static void languageRule() {
+        about("LANGUAGE.md, rule 7");
+        test("No call may ever throw or fail to end, for any arguments in any state",
+            "calls after the 512th", BoundaryTest::laterCallsEnd);
     }
 
     // Terms.
@@ -1480,6 +1486,7 @@ public final class BoundaryTest {
 
     public static void main(String[] args) {
         whatItIs();
+        languageRule();
         terms();
         aheadOfTheCalls();
         promise1();

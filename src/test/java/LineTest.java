@@ -8,12 +8,17 @@ import java.lang.reflect.Field;
 public final class LineTest {
     private static final int FRAME_BITS = 31;
 
+    private static final int MOST_TOLD = 40;
+
     private static int wrong = 0;
+    private static long sequence;
 
     private static void due(String what, int got, int want) {
         if (got != want) {
             wrong++;
-            System.out.println(what + " is " + got + ", due is " + want);
+            if (wrong <= MOST_TOLD) {
+                System.out.println(what + " is " + got + ", due is " + want);
+            }
         }
     }
 
@@ -136,6 +141,95 @@ public final class LineTest {
         }
     }
 
+    /** A frame that is lost or arrives makes room for the next one. */
+    private static void roomAgain() {
+        for (int fault = 0; fault < 3; fault++) {
+            LossyLink link = new LossyLink(2);
+            for (int i = 0; i < 5; i++) {
+                link.give(0, i, false);
+            }
+            due("under way before", inside(link, "underWay", 0), 2);
+            link.carry(0, fault, 0);
+            due("under way after fault " + fault, inside(link, "underWay", 0), 2);
+        }
+    }
+
+    private static void carryAll(LossyLink link, int from) {
+        for (int i = 0; i < 100 && inside(link, "underWay", from) > 0; i++) {
+            link.carry(from, 0, 0);
+        }
+    }
+
+    /** A station sends again what was asked for or waited for, and nothing that is confirmed. */
+    private static void confirmedIsNotSentAgain(int from) {
+        LossyLink link = twoFramesFrom(from);
+        link.give(from, 30, false);
+        link.carry(from, 0, 0);
+        link.carry(1 - from, 0, 0);
+        dueLine("one of three confirmed", link, from, 2, 1);
+        due("confirmed", inside(link, "confirmed", from), 1);
+
+        LossyLink narrow = new LossyLink(2);
+        for (int i = 0; i < 4; i++) {
+            narrow.give(from, i, false);
+        }
+        narrow.carry(from, 0, 0);
+        narrow.carry(from, 0, 0);
+        narrow.fire(from);
+        carryAll(narrow, 1 - from);
+        due("confirmed after firing", inside(narrow, "confirmed", from), 2);
+        dueLine("fired too early", narrow, from, 2, 2);
+        narrow.carry(from, 0, 0);
+        narrow.carry(from, 0, 0);
+        dueLine("the last two once more", narrow, from, 2, 4);
+        narrow.carry(from, 0, 0);
+        dueLine("none after these", narrow, from, 1, 4);
+    }
+
+    private static int below(int bound) {
+        sequence = sequence * 6364136223846793005L + 1442695040888963407L;
+        return (int) ((sequence >>> 33) % bound);
+    }
+
+    private static void anyCallOnTheLine(LossyLink link, int choice) {
+        int station = choice & 1;
+        switch ((choice >> 1) % 4) {
+            case 0 -> link.give(station, choice & 255, false);
+            case 1 -> link.fire(station);
+            default -> link.carry(station, (choice >> 3) % 4, choice);
+        }
+    }
+
+    private static void dueSame(String when, LossyLink link, LossyLink other) {
+        for (String field : new String[] {"underWay", "received", "confirmed"}) {
+            for (int station = 0; station < 2; station++) {
+                due(when + ": " + field + " of station " + station,
+                    inside(link, field, station), inside(other, field, station));
+            }
+        }
+    }
+
+    /** Replies that were owed, frames and numbers of the time before a reset leave no trace. */
+    private static void reset() {
+        for (int run = 0; run < 400; run++) {
+            sequence = run;
+            int window = 1 + run % 5;
+            LossyLink used = new LossyLink(window);
+            for (int i = 0; i < 100; i++) {
+                anyCallOnTheLine(used, below(1 << 20));
+            }
+            used.reset();
+            LossyLink fresh = new LossyLink(window);
+            dueSame("run " + run + ", after reset", used, fresh);
+            for (int i = 0; i < 100; i++) {
+                int choice = below(1 << 20);
+                anyCallOnTheLine(used, choice);
+                anyCallOnTheLine(fresh, choice);
+                dueSame("run " + run + ", " + (i + 1) + " calls after reset", used, fresh);
+            }
+        }
+    }
+
     private static void ask(LossyLink link, int asked) {
         switch (asked) {
             case 0 -> link.waiting(0);
@@ -173,8 +267,11 @@ public final class LineTest {
             damage(from);
             gap(from);
             fire(from);
+            confirmedIsNotSentAgain(from);
         }
         window();
+        roomAgain();
+        reset();
         for (int asked = 0; asked < 6; asked++) {
             question(asked);
         }
